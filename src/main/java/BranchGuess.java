@@ -549,9 +549,10 @@ public final class BranchGuess {
         int wrong = 0;
         for (int i = 0; i < slots.lengths[slot]; i++) {
             int met = (int) slots.at(slot, i);
-            if (rival.meet(met / 2, met % 2)) {
+            if (rival.ask(met / 2) != met % 2) {
                 wrong++;
             }
+            rival.learn(met % 2);
         }
         return wrong;
     }
@@ -585,10 +586,10 @@ public final class BranchGuess {
         if (told.acted >= MOST_ACTS) {
             return NO_MORE;
         }
-        told.acts[told.acted] = 2 * address + taken;
-        told.acted++;
         int branch = trail.size;
         goTo(branch);
+        told.acts[told.acted] = 2 * address + taken;
+        told.acted++;
         trail.add(address, taken, NONE);
         record(branch);
         return trail.isWrong(branch) ? 0 : 1;
@@ -781,21 +782,19 @@ public final class BranchGuess {
         own.learn(trail.fact(branch, FACT_TAKEN));
     }
 
-    /** What was learnt of acts that are gone must not be met again. */
     private void keepActs(int n) {
         told.acted = n;
         trail.size = trail.ofRun + n;
-        if (own.moment > trail.size) {
-            own.clear();
-        }
     }
 
+    /** Nothing can be unlearnt: a MOMENT ahead of this one, and acts that are gone, mean a start from 0. */
     private void goTo(int moment) {
         if (own.moment > moment) {
             own.clear();
         }
         for (int m = own.moment; m < moment; m++) {
-            own.meet(trail.fact(m, FACT_ADDRESS), trail.fact(m, FACT_TAKEN));
+            own.ask(trail.fact(m, FACT_ADDRESS));
+            own.learn(trail.fact(m, FACT_TAKEN));
         }
     }
 
@@ -830,9 +829,10 @@ public final class BranchGuess {
     private int rivalWrongs() {
         int wrong = 0;
         for (int b = 0; b < trail.size; b++) {
-            if (rival.meet(trail.fact(b, FACT_ADDRESS), trail.fact(b, FACT_TAKEN))) {
+            if (rival.ask(trail.fact(b, FACT_ADDRESS)) != trail.fact(b, FACT_TAKEN)) {
                 wrong++;
             }
+            rival.learn(trail.fact(b, FACT_TAKEN));
         }
         return wrong;
     }
@@ -841,19 +841,20 @@ public final class BranchGuess {
         setRivalBy(parts);
         int cost = run.done;
         for (int b = 0; b < trail.ofRun; b++) {
-            if (rival.meet(trail.fact(b, FACT_ADDRESS), trail.fact(b, FACT_TAKEN))) {
+            if (rival.ask(trail.fact(b, FACT_ADDRESS)) != trail.fact(b, FACT_TAKEN)) {
                 cost += told.head[HEAD_COST] + wander(b);
             }
+            rival.learn(trail.fact(b, FACT_TAKEN));
         }
         return cost;
     }
 
     private boolean rivalGuessesAs(int slot) {
         for (int b = 0; b < slots.lengths[slot]; b++) {
-            rival.meet(trail.fact(b, FACT_ADDRESS), trail.fact(b, FACT_TAKEN));
-            if (rival.answer != slots.at(slot, b)) {
+            if (rival.ask(trail.fact(b, FACT_ADDRESS)) != slots.at(slot, b)) {
                 return false;
             }
+            rival.learn(trail.fact(b, FACT_TAKEN));
         }
         return true;
     }
@@ -871,9 +872,11 @@ public final class BranchGuess {
         for (int r = 0; r < rounds; r++) {
             roundWrongs[r] = 0;
             for (int i = 0; i < n; i++) {
-                if (rival.meet(address, bits >> i & 1)) {
+                int taken = bits >> i & 1;
+                if (rival.ask(address) != taken) {
                     roundWrongs[r]++;
                 }
+                rival.learn(taken);
             }
         }
     }
@@ -1150,11 +1153,11 @@ public final class BranchGuess {
         }
 
         static boolean isLetter(byte sign) {
-            return within(sign, 'a', 'z');
+            return sign >= 'a' && sign <= 'z';
         }
 
         static boolean isDigit(byte sign) {
-            return within(sign, '0', '9');
+            return sign >= '0' && sign <= '9';
         }
 
         boolean isWord(String word) {
@@ -1398,7 +1401,8 @@ public final class BranchGuess {
             return (parts & part) != 0;
         }
 
-        void ask(int asked) {
+        /** Answers the GUESS; nothing is learnt. */
+        int ask(int asked) {
             address = asked;
             tables.look(asked, past, has(PART_TRUST));
             corrector.weigh(asked, past, tables.first);
@@ -1412,8 +1416,10 @@ public final class BranchGuess {
                 answer = tables.first;
                 who = BY_FIRST;
             }
+            return answer;
         }
 
+        /** By what the BRANCH was that was asked for last. */
         void learn(int taken) {
             if (has(PART_LOOPS)) {
                 loops.learn(address, taken, answer != taken);
@@ -1421,17 +1427,9 @@ public final class BranchGuess {
             if (has(PART_CORRECTOR)) {
                 corrector.learn(taken);
             }
-            tables.learn(taken, has(PART_TRUST));
+            tables.learn(address, past, taken, has(PART_TRUST));
             past = past << 1 | taken;
             moment++;
-        }
-
-        /** Whether the GUESS was wrong. */
-        boolean meet(int met, int taken) {
-            ask(met);
-            boolean wrong = answer != taken;
-            learn(taken);
-            return wrong;
         }
     }
 
@@ -1459,7 +1457,6 @@ public final class BranchGuess {
 
         /** Of the ADDRESS that was asked for last, by TABLE. */
         final int[] places = new int[MOST_TABLES + 1];
-        final int[] marks = new int[MOST_TABLES + 1];
         int baseAt;
         int provider;
         int alternate;
@@ -1504,8 +1501,8 @@ public final class BranchGuess {
                     continue;
                 }
                 places[t] = MOST_ROWS * (t - 1) + indexOf(t, address, past);
-                marks[t] = tagOf(t, address, past);
-                if (tags[places[t]] == marks[t]) {
+                int tag = tags[places[t]];
+                if (tag != NONE && tag == tagOf(t, address, past)) {
                     alternate = provider;
                     provider = t;
                 }
@@ -1519,7 +1516,7 @@ public final class BranchGuess {
             return taken ? 1 : 0;
         }
 
-        void learn(int taken, boolean trusting) {
+        void learn(int address, long past, int taken, boolean trusting) {
             int said = says(provider);
             int saidElse = says(alternate);
             if (trusting && weak && said != saidElse) {
@@ -1534,7 +1531,7 @@ public final class BranchGuess {
                 move(alternate, taken);
             }
             if (first != taken) {
-                takeRow(taken);
+                takeRow(address, past, taken);
             }
         }
 
@@ -1547,7 +1544,7 @@ public final class BranchGuess {
             }
         }
 
-        void takeRow(int taken) {
+        void takeRow(int address, long past, int taken) {
             boolean above = false;
             for (int t = provider + 1; t <= last; t++) {
                 if (t == leftOut) {
@@ -1555,7 +1552,7 @@ public final class BranchGuess {
                 }
                 above = true;
                 if (uses[places[t]] == 0) {
-                    tags[places[t]] = marks[t];
+                    tags[places[t]] = tagOf(t, address, past);
                     counts[places[t]] = taken == 1 ? 0 : -1;
                     return;
                 }

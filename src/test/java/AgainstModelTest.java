@@ -149,12 +149,7 @@ public final class AgainstModelTest {
                 case "learns": call(method, address(), near(1, random.nextInt(4) == 0 ? 5 : 3)); break;
                 case "trace": fillTrace(); call(method, near(0, 3)); break;
                 case "like": fillLike(); call(method, near(0, 3)); break;
-                case "meets":
-                    int a = address();
-                    for (int i = 0; i < 6; i++) {
-                        call(method, random.nextInt(4) == 0 ? address() : a, near(0, 1));
-                    }
-                    break;
+                case "meets": burst(method); break;
                 case "undo": call(method); break;
                 case "anew": if (random.nextInt(5) == 0) call(method); break;
                 case "count": call(method, near(0, 12)); break;
@@ -165,6 +160,71 @@ public final class AgainstModelTest {
                 case "number": call(method, near(0, 3), near(0, 59)); break;
                 default: call(method); break;
             }
+        }
+
+        /** Acts that go on in one way, so that what is learnt comes to its bounds. */
+        void burst(Method meets) {
+            int way = random.nextInt(5);
+            int a = address();
+            int other = address();
+            int n = 1 + random.nextInt(12);
+            for (int i = 0; i < n; i++) {
+                int met = random.nextInt(4) == 0 ? other : a;
+                int end = real.count(8) + real.count(9);
+                int taken = near(0, 1);
+                if (way == 1) {
+                    taken = 1 - real.guess(met, end);
+                } else if (way == 2) {
+                    taken = real.guess(met, end);
+                } else if (way == 3) {
+                    met = splitAddress(met, end);
+                    taken = real.adds(met, end) > 0 ? 0 : 1;
+                } else if (way == 4) {
+                    taken = i % 2;
+                }
+                call(meets, met, taken);
+            }
+        }
+
+        /** One at which CORRECTOR's side is other than what is said first, if there is one. */
+        int splitAddress(int met, int end) {
+            for (int i = 0; i < 64; i++) {
+                int a = (i + met) & 63;
+                int sum = real.adds(a, end);
+                if (sum > -6 && sum < 6 && sum != -3) {
+                    return a;
+                }
+            }
+            return met;
+        }
+
+        /** All that is learnt by a MOMENT; these calls aren't counted, as the class has no bound on them. */
+        void sweep(int moment) {
+            int before = calls;
+            calls = 0;
+            for (int table = 1; table <= real.count(6); table++) {
+                for (int i = 0; i < 1 << real.count(0); i++) {
+                    for (int what = 0; what < 3; what++) {
+                        sweepCall("entry", table, i, what, moment);
+                    }
+                }
+            }
+            for (int i = 0; i < 16; i++) {
+                sweepCall("base", i, moment);
+                for (int row = 0; row < 3; row++) {
+                    sweepCall("corrector", row, i, moment);
+                }
+            }
+            for (int i = 0; i < 40; i++) {
+                sweepCall("loop", i / 5, i % 5, moment);
+                sweepCall("gauge", i % 4, moment);
+            }
+            calls = before;
+        }
+
+        private void sweepCall(String name, Object... numbers) {
+            calls = 0;
+            call(named(name), numbers);
         }
 
         void fillTrace() {
@@ -209,6 +269,8 @@ public final class AgainstModelTest {
                 for (int i = 0; i < more && calls < MOST_CALLS && trouble == null; i++) {
                     anyCall();
                 }
+                sweep(real.count(8) + real.count(9));
+                sweep(random.nextInt(real.count(8) + real.count(9) + 1));
             }
         }
     }

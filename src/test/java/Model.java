@@ -4,8 +4,8 @@ import java.util.List;
 import java.util.TreeMap;
 
 /**
- * The document told a second time, as literally and wastefully as can be: nothing is kept but what was told;
- * every answer is worked out from the start. The class is held against it.
+ * The document told a second time, as literally as can be: nothing is kept but what was told (and the latest
+ * thing that was worked out from it); every answer is worked out from the start. The class is held against it.
  */
 public final class Model {
     private String tape = "";
@@ -574,7 +574,23 @@ public final class Model {
         return guesser(head(5), -1, -1, -1);
     }
 
+    private List<String[]> atOf;
+    private String atActs = "";
+    private int atMoment;
+    private Guesser atLast;
+
     private Guesser at(int moment) {
+        String key = Arrays.deepToString(acts.toArray());
+        if (atOf != program || !key.equals(atActs) || moment != atMoment) {
+            atLast = atOnce(moment);
+            atOf = program;
+            atActs = key;
+            atMoment = moment;
+        }
+        return atLast;
+    }
+
+    private Guesser atOnce(int moment) {
         Guesser g = own();
         List<int[]> all = branches();
         for (int m = 0; m < moment; m++) {

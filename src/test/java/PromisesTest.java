@@ -180,6 +180,7 @@ public final class PromisesTest {
         faulty("guesser rows ;", 1, 13);
         faulty("guesser rows 0 tag 2 age 1 cost 0 deep 0 parts 0;", 2, 13);
         faulty("guesser rows 5 $", 2, 13);
+        faulty("guesser rows 1 tag 1", 2, 19);
         faulty("guesser rows 1 tag 7", 2, 19);
         faulty("guesser rows 1 tag 2 age 0", 2, 25);
         faulty("guesser rows 1 tag 2 age 10", 2, 25);
@@ -224,6 +225,22 @@ public final class PromisesTest {
         faulty(h + "stop;".repeat(40) + "guesser", 1, n + 200);
         faulty(" ".repeat(799) + "x", 1, 799);
         faulty(h + "stop" + " ".repeat(800 - n - 4), 1, 800);
+        cutOff(h + "go 399;", n + 5);
+        cutOff(h + "stops;", n + 4);
+        cutOff(h + "stop;", n + 4);
+    }
+
+    /** What was cut off is not there any more. */
+    private static void cutOff(String text, int end) {
+        BranchGuess x = new BranchGuess();
+        for (int from = 0; from < text.length(); from += 20) {
+            int[] f = Programs.feedOf(text, from);
+            x.feed(f[0], f[1], f[2], f[3], f[4]);
+        }
+        x.end(end);
+        due(3, "cut off: " + text, x.program(), -4);
+        due(5, "cut off: " + text, x.fault(0), 1);
+        due(5, "cut off: " + text, x.fault(1), end);
     }
 
     private static void manyLines() {
@@ -548,6 +565,18 @@ public final class PromisesTest {
         due(27, "USE 1 more", x.entry(2, 2, 2, 9), 1);
         due(27, "COUNT 1 up", x.entry(2, 2, 1, 9), 1);
         due(27, "ALTERNATE's 1 up", x.entry(1, 0, 1, 9), 0);
+        // By turns: both ROWS of TABLE 1 are right, BASE comes to rest at 1, so that only TAKEN is of use.
+        x = of(TABLES);
+        act(x, 5, "TNTNTNTNTNTNTN");
+        int[] useTaken = {1, 2, 3, 3, 3, 3};
+        int[] countTaken = {1, 2, 3, 3, 3, 3};
+        int[] countNot = {-2, -3, -4, -4, -4, -4};
+        for (int i = 0; i < 6; i++) {
+            due(27, "USE, 3 at most, " + i, x.entry(1, 1, 2, 3 + 2 * i), useTaken[i]);
+            due(27, "COUNT, 3 at most, " + i, x.entry(1, 1, 1, 3 + 2 * i), countTaken[i]);
+            due(27, "COUNT, -4 at least, " + i, x.entry(1, 0, 1, 4 + 2 * i), countNot[i]);
+            due(27, "USE of what BASE says too, " + i, x.entry(1, 0, 2, 4 + 2 * i), 1);
+        }
     }
 
     private static void rows() {
@@ -762,6 +791,22 @@ public final class PromisesTest {
         due(36, "all 80 wrong", x.cycles(), 200 + 20 * 80);
         due(37, "by another P", x.cheapest() < 1800 ? 1 : 0, 1);
         due(37, "the fewest of all", x.cheapest(), 200 + 20 * x.by(x.ideal()));
+        // Here every part does harm (found by a search, as are the two PATTERNS of late()).
+        x = of("guesser rows 4 tag 3 age 9 cost 2 deep 4 parts 0;span 4;span 8;put 6 348;put 7 503;add 0 94;odd 0 5;"
+            + "sum 1 0;below 1 6 7;less 2 1;below 2 7 2;same 0 6 11;odd 2 2;take 5 3;go 2;");
+        due(39, "no part", x.ideal(), 0);
+        due(38, "no part", x.by(0), 21);
+        due(37, "no part", x.cheapest(), 251);
+        due(36, "no part", x.cycles(), 251);
+        late();
+    }
+
+    private static void late() {
+        BranchGuess x = of("guesser rows 1 tag 6 age 9 cost 7 deep 8 parts 2;span 4;");
+        due(45, "learnt at the last", x.learnt(12, 1151, 11), 29);
+        x = of("guesser rows 3 tag 2 age 7 cost 12 deep 0 parts 6;");
+        due(44, "none wrong in 28", x.round(6, 8998, 16, 28), 0);
+        due(45, "but in 29", x.learnt(6, 8998, 16), -1);
     }
 
     private static void otherParts() {
