@@ -1427,7 +1427,10 @@ public final class BranchGuess {
             if (has(PART_CORRECTOR)) {
                 corrector.learn(taken);
             }
-            tables.learn(address, past, taken, has(PART_TRUST));
+            tables.learn(taken, has(PART_TRUST));
+            if (tables.first != taken) {
+                tables.takeRow(address, past, taken);
+            }
             past = past << 1 | taken;
             moment++;
         }
@@ -1516,7 +1519,7 @@ public final class BranchGuess {
             return taken ? 1 : 0;
         }
 
-        void learn(int address, long past, int taken, boolean trusting) {
+        void learn(int taken, boolean trusting) {
             int said = says(provider);
             int saidElse = says(alternate);
             if (trusting && weak && said != saidElse) {
@@ -1530,9 +1533,6 @@ public final class BranchGuess {
             if (weak) {
                 move(alternate, taken);
             }
-            if (first != taken) {
-                takeRow(address, past, taken);
-            }
         }
 
         void move(int table, int taken) {
@@ -1544,6 +1544,7 @@ public final class BranchGuess {
             }
         }
 
+        /** If what was said first was wrong. */
         void takeRow(int address, long past, int taken) {
             boolean above = false;
             for (int t = provider + 1; t <= last; t++) {

@@ -8,7 +8,10 @@ import java.util.Map;
 import java.util.regex.Matcher;
 import java.util.regex.Pattern;
 
-/** The document's Terms ("I" .. "VII") and Promises ("1" .. "57"), and which of their words were quoted by a test. */
+/**
+ * The document's "What it is" (but for its first paragraph), Terms ("I" .. "VII") and Promises ("1" .. "57"), and which
+ * of their words were quoted by a test.
+ */
 final class Document {
     private final Map<String, String> texts = new LinkedHashMap<>();
     private final Map<String, boolean[]> quoted = new LinkedHashMap<>();
@@ -20,6 +23,8 @@ final class Document {
         } catch (IOException e) {
             throw new IllegalStateException("there is no ../shared/DOC.md", e);
         }
+        String calls = all.substring(all.indexOf("An object is used"), all.indexOf("## The public face"));
+        keep("What it is", calls);
         String terms = all.substring(all.indexOf("## Terms"), all.indexOf("## Promise 1:"));
         split(terms.replace("```text", "").replace("```", ""), "(?m)^(I|II|III|IV|V|VI|VII)\\. ");
         String promises = all.substring(all.indexOf("## Promise 1:"), all.indexOf("## Not promised"));

@@ -12,7 +12,7 @@ final class Edges {
     private int checks = 0;
     private int wrong = 0;
 
-    /** A sentence of a Term ("I" .. "VII") or of a Promise ("1" .. "57"), word for word. */
+    /** A sentence of a section of the document, word for word. */
     void says(String ofSection, String sentence) {
         endSentence();
         section = ofSection;
@@ -119,7 +119,7 @@ final class Edges {
         if (everyWord) {
             section = "the document";
             words = "";
-            if (document.sections() != 64) {
+            if (document.sections() != 65) {
                 fault("it has " + document.sections() + " sections");
             }
             for (String rest : document.unquoted()) {

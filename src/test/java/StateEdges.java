@@ -10,6 +10,7 @@ final class StateEdges {
     }
 
     void all() {
+        calls();
         meets();
         undo();
         anew();
@@ -18,6 +19,17 @@ final class StateEdges {
         row();
         write();
         number();
+    }
+
+    private void calls() {
+        e.says("What it is", "An object is used for at most 512 calls after it has been made; what later calls answer is "
+            + "free.");
+        Asked x = e.of(LOOP);
+        while (x.calls() < 510) {
+            x.due(7, "steps");
+        }
+        x.due(0, "meets", 9, 1).due(3, "wrong", 4);
+        e.due("calls", x.calls(), 512);
     }
 
     private void meets() {

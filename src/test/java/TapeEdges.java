@@ -86,6 +86,23 @@ final class TapeEdges {
             int lines = n == 0 ? 0 : n == HEAD.length() ? 1 : n == HEAD.length() + 5 ? 2 : n == text.length() ? 3 : -4;
             x.due(lines, "program");
         }
+        // Of what was cut off nothing is read, be it within a word or a number.
+        String longer = HEAD + "span 12;put 1 234;below 1 1 39; stop ;";
+        for (int n = 0; n <= longer.length(); n++) {
+            Asked cut = e.fresh();
+            cut.tape(longer);
+            cut.due(n, "end", n);
+            Asked told = e.fresh();
+            told.tape(longer.substring(0, n));
+            cut.due(told.call("program"), "program");
+            cut.due(told.call("fault", 0), "fault", 0).due(told.call("fault", 1), "fault", 1);
+        }
+        for (int n = 1; n <= 3; n++) {
+            Asked cut = e.fresh();
+            cut.tape(HEAD + "put 1 234;");
+            cut.due(HEAD.length() + 6 + n, "end", HEAD.length() + 6 + n).due(-4, "program").due(1, "fault", 0);
+            cut.due(HEAD.length() + 6 + n, "fault", 1);
+        }
         Asked x = e.fresh();
         x.tape(text);
         x.due(text.length(), "end", text.length()).due(3, "end", 3).due(0, "end", 0).due(0, "end", 0);
