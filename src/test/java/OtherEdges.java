@@ -159,10 +159,40 @@ final class OtherEdges {
             }
             scene(i).due(spare, "spare");
         }
+        allWrong();
         e.says("41", "NONE: there are no TABLES; -2: there is no PROGRAM.");
         e.of(HEAD).due(-1, "spare").acts(5, "TNT").due(-1, "spare");
         e.of(HEAD + "span 40;").due(1, "spare");
         e.refusedWithoutProgram(-2, "spare");
+    }
+
+    /**
+     * 200 BRANCHES of RUN and 40 acts, each of which BASE alone guesses wrong: of the ADDRESSES that share a COUNT one is
+     * TAKEN, then another is not, by turns. The fewest are as many as there can be then.
+     */
+    private void allWrong() {
+        int[] to = new int[35];
+        to[0] = 16;
+        to[17] = 33;
+        to[32] = 16;
+        to[34] = 2;
+        for (int op = 3; op <= 15; op += 2) {
+            to[op] = op + 16;
+            to[op + 15] = op > 3 ? op - 1 : 0;
+        }
+        StringBuilder ops = new StringBuilder();
+        for (int l : to) {
+            ops.append(l > 0 ? "same 0 0 " + l + ";" : "odd 0 0;");
+        }
+        Asked base = e.of(HEAD + ops);
+        int[] acts = new int[40];
+        for (int i = 0; i < 40; i++) {
+            acts[i] = 2 * 5 + 1 - (int) base.call("guess", 5, 200 + i);
+            base.due(0, "meets", 5, acts[i] % 2);
+        }
+        base.due(200, "count", 8).due(240, "wrong", 240).due(0, "streak").due(240, "by", 0);
+        Asked x = e.of(HEAD + "span 3;" + ops).acts(acts).due(240, "without", 1).due(1, "spare");
+        e.holds("the TABLE is of use", x.call("by", 0) < 240);
     }
 
     private void spanned() {
